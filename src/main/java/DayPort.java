@@ -1574,18 +1574,20 @@ public final class DayPort {
                 ways[i] = 0;
             }
             ways[0] = 1;
+            int most = 0;
             for (int c = 0; c < port.crateCount; c++) {
                 int weighs = port.crates[c].weighs;
                 goal -= now.opened[c] == BY_NIGHT ? 2 * weighs : weighs;
                 if (now.opened[c] == UNOPENED) {
-                    addCrate(weighs);
+                    most += weighs;
+                    addCrate(weighs, most);
                 }
             }
             sets = waysOf(goal);
         }
 
-        private void addCrate(int weighs) {
-            for (int sum = ways.length - 1; sum >= weighs && sum >= 0; sum--) {
+        private void addCrate(int weighs, int most) {
+            for (int sum = Math.min(most, ways.length - 1); sum >= weighs && sum >= 0; sum--) {
                 ways[sum] += waysOf(sum - weighs);
             }
         }

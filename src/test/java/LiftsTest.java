@@ -63,6 +63,10 @@ public final class LiftsTest {
             + "crate m plain on a stack 0 is 6 weighs 1;" + Check.TOWN);
         out(x, 0, 3, 1, 3, 13);
         out(x, 1, 1, 13);
+        CHECK.due("liftAt without fewest", x.liftAt(0, 0), 1);
+        CHECK.due("liftAt without fewest", x.liftAt(1, 0), 13);
+        x.lift(0, 0, 2);
+        CHECK.due("liftAt as they lie NOW", x.liftAt(0, 0), 3);
         CHECK.refused(x, "fewest(2)", x.fewest(2), -1, 1);
         CHECK.refused(x, "fewest(-1)", x.fewest(-1), -1, 1);
         CHECK.refused(x, "liftAt(2, 0)", x.liftAt(2, 0), -1, 1);

@@ -117,6 +117,14 @@ public final class PortTextTest {
         faultAtLast(P + S + ";crate c heavy", 1);
         faultAtLast(P + S + ";crate c wet at", 1);
         faultAtLast(P + S + crate("c", 1) + ";opened c noon", 1);
+        for (String word : new String[] {"qort", "pprt", "poqt", "pors", "xhip", "xrate", "xown", "xoad", "xpened"}) {
+            faultAtLast(P + ";" + word, 1);
+            fault(word, 1, 0);
+        }
+        faultAtLast("port xtraw", 1);
+        faultAtLast(P + ";ship s xay", 1);
+        faultAtLast(P + S + ";crate c xet", 1);
+        faultAtLast(P + S + ";crate c wet xn", 1);
         fault(P + S + crate("c", 1) + ";opened c", 1, (P + S + crate("c", 1) + ";opened c").length());
         fault(P + S + T + ".", 1, (P + S + T).length());
         fault(P + S + T + "\t", 1, (P + S + T).length());
@@ -147,6 +155,14 @@ public final class PortTextTest {
         faultAtLast(P + S + T + ";port", 3);
         sound("port straw 0 wage 1 gang 0 council 0;ship straw day 0 chance 0 late 1 says 0;town day people 1", 0);
         sound(P + ";ship abcdefgh day 1 chance 1 late 1 says 1;town abcdefg people 1", 0);
+        String alike = P + S;
+        for (String name : new String[] {"aaaaaaaa", "baaaaaaa", "aaaaaaab", "aaaaaaa", "aaaaaaaz"}) {
+            faultAtLast(alike + ";road " + name, 2);
+            alike += ";town " + name + " people 1";
+            faultAtLast(alike + ";ship " + name, 3);
+        }
+        sound(alike, 0);
+        sound(P + S + ";town a people 1;town aa people 1;town z people 1;town za people 1;town az people 1", 0);
     }
 
     private static void bound(String ahead, int low, int high, String behind) {
