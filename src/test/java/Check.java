@@ -47,18 +47,34 @@ final class Check {
         due("led(" + i + ")", got, want);
     }
 
-    static void feed(DayPort x, String text) {
-        StringBuilder padded = new StringBuilder(text);
-        while (padded.length() % 20 != 0) {
-            padded.append(' ');
+    /** A text, filled up with blanks, as rows of five numbers for feed. */
+    static int[][] rows(String text) {
+        int[][] rows = new int[(text.length() + 19) / 20][5];
+        for (int i = 0; i < rows.length * 20; i++) {
+            int sign = i < text.length() ? text.charAt(i) : ' ';
+            rows[i / 20][i % 20 / 4] = rows[i / 20][i % 20 / 4] << 8 | sign;
         }
-        for (int i = 0; i < padded.length(); i += 20) {
-            x.feed(four(padded, i), four(padded, i + 4), four(padded, i + 8), four(padded, i + 12), four(padded, i + 16));
+        return rows;
+    }
+
+    static void feed(DayPort x, String text) {
+        for (int[] row : rows(text)) {
+            x.feed(row[0], row[1], row[2], row[3], row[4]);
         }
     }
 
-    private static int four(CharSequence text, int at) {
-        return text.charAt(at) << 24 | text.charAt(at + 1) << 16 | text.charAt(at + 2) << 8 | text.charAt(at + 3);
+    /** Three ships a, b, c with five wet crates each, all of one weight, behind a line port. */
+    static String fullShips(String port, int weighs) {
+        StringBuilder text = new StringBuilder(port);
+        for (int s = 0; s < 3; s++) {
+            char ship = (char) ('a' + s);
+            text.append(";ship ").append(ship).append(" day 1 chance 1 late 1 says 1");
+            for (int i = 1; i <= 5; i++) {
+                text.append(";crate ").append(ship).append((char) ('a' + i)).append(" wet on ").append(ship);
+                text.append(" stack ").append(i % 3).append(" is ").append(5 * s + i).append(" weighs ").append(weighs);
+            }
+        }
+        return text.toString();
     }
 
     static int tell(DayPort x, String text) {

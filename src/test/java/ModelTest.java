@@ -141,17 +141,9 @@ public final class ModelTest {
     }
 
     private void tell(String text, int n) {
-        StringBuilder padded = new StringBuilder(text);
-        while (padded.length() % 20 != 0) {
-            padded.append(' ');
-        }
-        for (int i = 0; i < padded.length(); i += 20) {
-            int[] four = new int[5];
-            for (int k = 0; k < 20; k++) {
-                four[k / 4] = four[k / 4] << 8 | padded.charAt(i + k);
-            }
-            same("feed", x.feed(four[0], four[1], four[2], four[3], four[4]),
-                m.feed(four[0], four[1], four[2], four[3], four[4]));
+        for (int[] row : Check.rows(text)) {
+            same("feed", x.feed(row[0], row[1], row[2], row[3], row[4]),
+                m.feed(row[0], row[1], row[2], row[3], row[4]));
         }
         same("port of " + text, x.port(n), m.port(n));
         CHECK.due("fault of " + text, x.fault(), m.fault());

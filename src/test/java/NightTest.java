@@ -73,6 +73,22 @@ public final class NightTest {
         night(x, 2, 7, 0, 0, 1);
     }
 
+    private static DayPort heaviest(int straw) {
+        return Check.of(Check.fullShips("port straw " + straw + " wage 1 gang 0 council 0", 30) + ";" + Check.TOWN);
+    }
+
+    private static void fifteenOfTheHeaviest() {
+        night(heaviest(450), 1, 0, 0, 0, 1);
+        night(heaviest(900), 1, 32767, 32767, 0, 1);
+        night(heaviest(870), 15, 32767, 0, 0, 14);
+        night(heaviest(660), 6435, 32767, 0, 0, 3432);
+        night(heaviest(690), 6435, 32767, 0, 0, 3432);
+        night(heaviest(899), 0, 0, 0, -2, -2);
+        night(heaviest(901), 0, 0, 0, -2, -2);
+        night(heaviest(930), 0, 0, 0, -2, -2);
+        night(heaviest(999), 0, 0, 0, -2, -2);
+    }
+
     private static void withoutPort() {
         DayPort x = new DayPort();
         CHECK.refused(x, "fits", x.fits(), -1, 1);
@@ -87,6 +103,7 @@ public final class NightTest {
         opened();
         crateByFewestLeft();
         countedWhereverTheyAre();
+        fifteenOfTheHeaviest();
         withoutPort();
         CHECK.end();
     }

@@ -22,16 +22,8 @@ public final class OutTest {
     private static void compare(String text) {
         DayPort x = Check.of(text);
         Model m = new Model();
-        StringBuilder padded = new StringBuilder(text);
-        while (padded.length() % 20 != 0) {
-            padded.append(' ');
-        }
-        for (int i = 0; i < padded.length(); i += 20) {
-            int[] four = new int[5];
-            for (int k = 0; k < 20; k++) {
-                four[k / 4] = four[k / 4] << 8 | padded.charAt(i + k);
-            }
-            m.feed(four[0], four[1], four[2], four[3], four[4]);
+        for (int[] row : Check.rows(text)) {
+            m.feed(row[0], row[1], row[2], row[3], row[4]);
         }
         m.port(text.length());
         int fewest = m.fewest(0);

@@ -226,19 +226,6 @@ public final class PortTextTest {
         faultAtLast(crates + ";crate z wet on t", 2);
     }
 
-    private static String fullShips() {
-        StringBuilder text = new StringBuilder(P);
-        for (int s = 0; s < 3; s++) {
-            char ship = (char) ('a' + s);
-            text.append(";ship ").append(ship).append(" day 1 chance 1 late 1 says 1");
-            for (int i = 1; i <= 5; i++) {
-                text.append(";crate ").append(ship).append((char) ('a' + i)).append(" wet on ").append(ship);
-                text.append(" stack ").append(i % 3).append(" is ").append(5 * s + i).append(" weighs 1");
-            }
-        }
-        return text.toString();
-    }
-
     private static void lacks() {
         fault("ship s", 6, 0);
         fault("  town", 6, 2);
@@ -249,8 +236,8 @@ public final class PortTextTest {
         fault(P + S + "  ", 6, (P + S).length() + 2);
         fault(P + T, 6, (P + T).length());
         sound(P + T + S, 0);
-        sound(fullShips() + T, 15);
-        faultAtLast(fullShips() + ";crate z wet on b", 5);
+        sound(Check.fullShips(P, 1) + T, 15);
+        faultAtLast(Check.fullShips(P, 1) + ";crate z wet on b", 5);
     }
 
     private static void blanks() {
