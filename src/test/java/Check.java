@@ -26,6 +26,10 @@ final class Check {
         due(call, got ? 1 : 0, want ? 1 : 0);
     }
 
+    void due(String call, String got, String want) {
+        due(call + ": " + got + ", due is " + want, got.equals(want), true);
+    }
+
     /** A call was refused: its answer, and TROUBLE. */
     void refused(DayPort x, String call, long got, long want, int trouble) {
         due(call, got, want);
@@ -35,6 +39,33 @@ final class Check {
     void refused(DayPort x, String call, boolean got, int trouble) {
         due(call, got, false);
         due("trouble() of " + call, x.trouble(), trouble);
+    }
+
+    /** A text with a FAULT, told to a new object. */
+    void fault(String text, int number, int place) {
+        DayPort x = new DayPort();
+        due(text + ": port", tell(x, text), DayPort.NONE);
+        due(text + ": trouble", x.trouble(), 4);
+        due(text + ": fault", x.fault(), number);
+        due(text + ": where", x.where(), place);
+        due(text + ": ships", x.size(2), 0);
+        due(text + ": tape", x.size(12), 0);
+    }
+
+    /** The FAULT lies at the last token of the text, which begins behind its last blank or semicolon. */
+    void faultAtLast(String text, int number) {
+        fault(text, number, Math.max(text.lastIndexOf(' '), text.lastIndexOf(';')) + 1);
+    }
+
+    /** A text without a FAULT, told to a new object. */
+    DayPort sound(String text, int crates) {
+        DayPort x = new DayPort();
+        due(text, tell(x, text), crates);
+        due(text + ": trouble", x.trouble(), 0);
+        due(text + ": fault", x.fault(), 0);
+        due(text + ": where", x.where(), DayPort.NONE);
+        due(text + ": tape", x.size(12), 0);
+        return x;
     }
 
     void brokenIs(DayPort x, int i, int want) {

@@ -5,30 +5,6 @@ public final class PortTextTest {
     private static final String S = ";ship s day 1 chance 1 late 1 says 1";
     private static final String T = ";town t people 1";
 
-    private static void fault(String text, int number, int place) {
-        DayPort x = new DayPort();
-        CHECK.due(text + ": port", Check.tell(x, text), DayPort.NONE);
-        CHECK.due(text + ": trouble", x.trouble(), 4);
-        CHECK.due(text + ": fault", x.fault(), number);
-        CHECK.due(text + ": where", x.where(), place);
-        CHECK.due(text + ": ships", x.size(2), 0);
-        CHECK.due(text + ": tape", x.size(12), 0);
-    }
-
-    /** The fault lies at the last token of the text, which begins behind its last blank or semicolon. */
-    private static void faultAtLast(String text, int number) {
-        int place = Math.max(text.lastIndexOf(' '), text.lastIndexOf(';')) + 1;
-        fault(text, number, place);
-    }
-
-    private static void sound(String text, int crates) {
-        DayPort x = new DayPort();
-        CHECK.due(text, Check.tell(x, text), crates);
-        CHECK.due(text + ": trouble", x.trouble(), 0);
-        CHECK.due(text + ": fault", x.fault(), 0);
-        CHECK.due(text + ": where", x.where(), DayPort.NONE);
-    }
-
     private static String crate(String name, int number) {
         return ";crate " + name + " plain on s stack 0 is " + number + " weighs 1";
     }
@@ -92,85 +68,85 @@ public final class PortTextTest {
     }
 
     private static void form() {
-        fault("", 1, 0);
-        fault("   ", 1, 3);
-        fault(";", 1, 0);
-        fault("harbour", 1, 0);
-        fault("12", 1, 0);
-        fault("Port", 1, 0);
-        fault("portportport", 1, 0);
-        fault("port straw", 1, 10);
-        fault("port straw 1 ", 1, 13);
-        faultAtLast("port straw 1234", 1);
-        faultAtLast("port straw straw", 1);
-        faultAtLast("port wage", 1);
-        fault("port straw 1 wage 1 gang 0 council -1", 1, 35);
-        fault(P + ";", 1, P.length() + 1);
-        fault(P + " ship", 1, P.length() + 1);
-        fault(P + ";;", 1, P.length() + 1);
-        faultAtLast(P + ";ship abcdefghi", 1);
-        faultAtLast(P + ";ship 1", 1);
+        CHECK.fault("", 1, 0);
+        CHECK.fault("   ", 1, 3);
+        CHECK.fault(";", 1, 0);
+        CHECK.fault("harbour", 1, 0);
+        CHECK.fault("12", 1, 0);
+        CHECK.fault("Port", 1, 0);
+        CHECK.fault("portportport", 1, 0);
+        CHECK.fault("port straw", 1, 10);
+        CHECK.fault("port straw 1 ", 1, 13);
+        CHECK.faultAtLast("port straw 1234", 1);
+        CHECK.faultAtLast("port straw straw", 1);
+        CHECK.faultAtLast("port wage", 1);
+        CHECK.fault("port straw 1 wage 1 gang 0 council -1", 1, 35);
+        CHECK.fault(P + ";", 1, P.length() + 1);
+        CHECK.fault(P + " ship", 1, P.length() + 1);
+        CHECK.fault(P + ";;", 1, P.length() + 1);
+        CHECK.faultAtLast(P + ";ship abcdefghi", 1);
+        CHECK.faultAtLast(P + ";ship 1", 1);
         for (String word : new String[] {"port", "ship", "crate", "town", "road", "opened"}) {
-            faultAtLast(P + ";ship " + word, 1);
-            faultAtLast(P + S + ";crate c wet on " + word, 1);
+            CHECK.faultAtLast(P + ";ship " + word, 1);
+            CHECK.faultAtLast(P + S + ";crate c wet on " + word, 1);
         }
-        faultAtLast(P + S + ";crate c heavy", 1);
-        faultAtLast(P + S + ";crate c wet at", 1);
-        faultAtLast(P + S + crate("c", 1) + ";opened c noon", 1);
+        CHECK.faultAtLast(P + S + ";crate c heavy", 1);
+        CHECK.faultAtLast(P + S + ";crate c wet at", 1);
+        CHECK.faultAtLast(P + S + crate("c", 1) + ";opened c noon", 1);
         for (String word : new String[] {"qort", "pprt", "poqt", "pors", "xhip", "xrate", "xown", "xoad", "xpened"}) {
-            faultAtLast(P + ";" + word, 1);
-            fault(word, 1, 0);
+            CHECK.faultAtLast(P + ";" + word, 1);
+            CHECK.fault(word, 1, 0);
         }
-        faultAtLast("port xtraw", 1);
-        faultAtLast(P + ";ship s xay", 1);
-        faultAtLast(P + S + ";crate c xet", 1);
-        faultAtLast(P + S + ";crate c wet xn", 1);
-        fault(P + S + crate("c", 1) + ";opened c", 1, (P + S + crate("c", 1) + ";opened c").length());
-        fault(P + S + T + ".", 1, (P + S + T).length());
-        fault(P + S + T + "\t", 1, (P + S + T).length());
+        CHECK.faultAtLast("port xtraw", 1);
+        CHECK.faultAtLast(P + ";ship s xay", 1);
+        CHECK.faultAtLast(P + S + ";crate c xet", 1);
+        CHECK.faultAtLast(P + S + ";crate c wet xn", 1);
+        CHECK.fault(P + S + crate("c", 1) + ";opened c", 1, (P + S + crate("c", 1) + ";opened c").length());
+        CHECK.fault(P + S + T + ".", 1, (P + S + T).length());
+        CHECK.fault(P + S + T + "\t", 1, (P + S + T).length());
         // Of what is met from the left the first alone counts.
-        fault(P + ";ship s day 61 !", 4, P.length() + 12);
+        CHECK.fault(P + ";ship s day 61 !", 4, P.length() + 12);
     }
 
     private static void names() {
-        faultAtLast(P + S + ";crate c wet on t", 2);
-        faultAtLast(P + S + T + ";crate c wet on t", 2);
-        faultAtLast(P + S + ";crate c wet on c", 2);
-        faultAtLast(P + S + T + ";road s", 2);
-        faultAtLast(P + S + T + ";road t s", 2);
-        faultAtLast(P + S + T + ";road t u", 2);
-        faultAtLast(P + S + ";opened s", 2);
-        faultAtLast(P + S + ";opened c", 2);
-        faultAtLast(P + S + ";ship s", 3);
-        faultAtLast(P + S + ";town s", 3);
-        faultAtLast(P + S + ";crate s", 3);
-        faultAtLast(P + S + T + ";crate t", 3);
-        faultAtLast(P + S + crate("c", 1) + ";town c", 3);
-        faultAtLast(P + S + crate("c", 9) + ";crate d plain on s stack 1 is 9", 3);
-        faultAtLast(P + S + T + ";road t t", 3);
-        faultAtLast(P + S + T + ";town u people 1;road t u days 1;road t u", 3);
-        faultAtLast(P + S + T + ";town u people 1;road t u days 1;road u t", 3);
-        faultAtLast(P + S + crate("c", 1) + ";opened c day;opened c", 3);
-        faultAtLast(P + ";port", 3);
-        faultAtLast(P + S + T + ";port", 3);
-        sound("port straw 0 wage 1 gang 0 council 0;ship straw day 0 chance 0 late 1 says 0;town day people 1", 0);
-        sound(P + ";ship abcdefgh day 1 chance 1 late 1 says 1;town abcdefg people 1", 0);
+        CHECK.faultAtLast(P + S + ";crate c wet on t", 2);
+        CHECK.faultAtLast(P + S + T + ";crate c wet on t", 2);
+        CHECK.faultAtLast(P + S + ";crate c wet on c", 2);
+        CHECK.faultAtLast(P + S + T + ";road s", 2);
+        CHECK.faultAtLast(P + S + T + ";road t s", 2);
+        CHECK.faultAtLast(P + S + T + ";road t u", 2);
+        CHECK.faultAtLast(P + S + ";opened s", 2);
+        CHECK.faultAtLast(P + S + ";opened c", 2);
+        CHECK.faultAtLast(P + S + ";ship s", 3);
+        CHECK.faultAtLast(P + S + ";town s", 3);
+        CHECK.faultAtLast(P + S + ";crate s", 3);
+        CHECK.faultAtLast(P + S + T + ";crate t", 3);
+        CHECK.faultAtLast(P + S + crate("c", 1) + ";town c", 3);
+        CHECK.faultAtLast(P + S + crate("c", 9) + ";crate d plain on s stack 1 is 9", 3);
+        CHECK.faultAtLast(P + S + T + ";road t t", 3);
+        CHECK.faultAtLast(P + S + T + ";town u people 1;road t u days 1;road t u", 3);
+        CHECK.faultAtLast(P + S + T + ";town u people 1;road t u days 1;road u t", 3);
+        CHECK.faultAtLast(P + S + crate("c", 1) + ";opened c day;opened c", 3);
+        CHECK.faultAtLast(P + ";port", 3);
+        CHECK.faultAtLast(P + S + T + ";port", 3);
+        CHECK.sound("port straw 0 wage 1 gang 0 council 0;ship straw day 0 chance 0 late 1 says 0;town day people 1", 0);
+        CHECK.sound(P + ";ship abcdefgh day 1 chance 1 late 1 says 1;town abcdefg people 1", 0);
         String alike = P + S;
         for (String name : new String[] {"aaaaaaaa", "baaaaaaa", "aaaaaaab", "aaaaaaa", "aaaaaaaz"}) {
-            faultAtLast(alike + ";road " + name, 2);
+            CHECK.faultAtLast(alike + ";road " + name, 2);
             alike += ";town " + name + " people 1";
-            faultAtLast(alike + ";ship " + name, 3);
+            CHECK.faultAtLast(alike + ";ship " + name, 3);
         }
-        sound(alike, 0);
-        sound(P + S + ";town a people 1;town aa people 1;town z people 1;town za people 1;town az people 1", 0);
+        CHECK.sound(alike, 0);
+        CHECK.sound(P + S + ";town a people 1;town aa people 1;town z people 1;town za people 1;town az people 1", 0);
     }
 
     private static void bound(String ahead, int low, int high, String behind) {
         if (low > 0) {
-            faultAtLast(ahead + " " + (low - 1), 4);
+            CHECK.faultAtLast(ahead + " " + (low - 1), 4);
         }
         if (high < 999) {
-            faultAtLast(ahead + " " + (high + 1), 4);
+            CHECK.faultAtLast(ahead + " " + (high + 1), 4);
         }
         DayPort x = new DayPort();
         for (int at : new int[] {low, high}) {
@@ -193,8 +169,8 @@ public final class PortTextTest {
         bound(P + S + ";crate c wet on s stack 0 is 1 weighs", 1, 30, T);
         bound(P + S + ";town t people", 1, 99, "");
         bound(P + S + T + ";town u people 1;road t u days", 1, 9, "");
-        faultAtLast("port straw 1 wage 000", 4);
-        sound("port straw 001 wage 01 gang 0 council 0" + S + T, 0);
+        CHECK.faultAtLast("port straw 1 wage 000", 4);
+        CHECK.sound("port straw 001 wage 01 gang 0 council 0" + S + T, 0);
     }
 
     private static void many() {
@@ -202,46 +178,46 @@ public final class PortTextTest {
         for (String name : new String[] {"a", "b", "c"}) {
             ships += ";ship " + name + " day 1 chance 1 late 1 says 1";
         }
-        sound(ships + T, 0);
-        faultAtLast(ships + ";ship", 5);
-        fault(ships + ";ship a", 5, ships.length() + 1);
+        CHECK.sound(ships + T, 0);
+        CHECK.faultAtLast(ships + ";ship", 5);
+        CHECK.fault(ships + ";ship a", 5, ships.length() + 1);
         String towns = P + S;
         for (String name : new String[] {"a", "b", "c", "d", "e"}) {
             towns += ";town " + name + " people 1";
         }
-        sound(towns, 0);
-        faultAtLast(towns + ";town", 5);
+        CHECK.sound(towns, 0);
+        CHECK.faultAtLast(towns + ";town", 5);
         String roads = towns;
         for (String pair : new String[] {"a b", "a c", "a d", "a e", "b c", "b d", "b e", "c d"}) {
             roads += ";road " + pair + " days 1";
         }
-        sound(roads, 0);
-        faultAtLast(roads + ";road", 5);
+        CHECK.sound(roads, 0);
+        CHECK.faultAtLast(roads + ";road", 5);
         String crates = P + S;
         for (int i = 1; i <= 5; i++) {
             crates += crate("c" + "abcdef".charAt(i), i);
         }
-        sound(crates + T, 5);
-        faultAtLast(crates + ";crate z wet on s", 5);
-        faultAtLast(crates + ";crate z wet on t", 2);
+        CHECK.sound(crates + T, 5);
+        CHECK.faultAtLast(crates + ";crate z wet on s", 5);
+        CHECK.faultAtLast(crates + ";crate z wet on t", 2);
     }
 
     private static void lacks() {
-        fault("ship s", 6, 0);
-        fault("  town", 6, 2);
-        fault("crate", 6, 0);
-        fault("road", 6, 0);
-        fault("opened", 6, 0);
-        fault(P, 6, P.length());
-        fault(P + S + "  ", 6, (P + S).length() + 2);
-        fault(P + T, 6, (P + T).length());
-        sound(P + T + S, 0);
-        sound(Check.fullShips(P, 1) + T, 15);
-        faultAtLast(Check.fullShips(P, 1) + ";crate z wet on b", 5);
+        CHECK.fault("ship s", 6, 0);
+        CHECK.fault("  town", 6, 2);
+        CHECK.fault("crate", 6, 0);
+        CHECK.fault("road", 6, 0);
+        CHECK.fault("opened", 6, 0);
+        CHECK.fault(P, 6, P.length());
+        CHECK.fault(P + S + "  ", 6, (P + S).length() + 2);
+        CHECK.fault(P + T, 6, (P + T).length());
+        CHECK.sound(P + T + S, 0);
+        CHECK.sound(Check.fullShips(P, 1) + T, 15);
+        CHECK.faultAtLast(Check.fullShips(P, 1) + ";crate z wet on b", 5);
     }
 
     private static void blanks() {
-        sound("  port straw1wage1gang0council0 ; ship s day1chance1late1says1;crate c wet on s stack0is1weighs1;"
+        CHECK.sound("  port straw1wage1gang0council0 ; ship s day1chance1late1says1;crate c wet on s stack0is1weighs1;"
             + "opened c night;town t people1 ", 1);
     }
 
