@@ -199,17 +199,6 @@ public final class ActsTest {
         CHECK.due("trouble", x.trouble(), 0);
     }
 
-    private static void withoutPort() {
-        DayPort x = new DayPort();
-        CHECK.refused(x, "lift", x.lift(0, 0, 1), -1, 1);
-        CHECK.refused(x, "dawn", x.dawn(), -1, 1);
-        CHECK.refused(x, "open", x.open(0, true), 1);
-        CHECK.refused(x, "undo", x.undo(), 6);
-        CHECK.refused(x, "image", x.image(), -1, 1);
-        CHECK.refused(x, "back", x.back(0), 1);
-        CHECK.brokenIs(x, 0, -1);
-    }
-
     public static void main(String[] args) {
         lifts();
         breaking();
@@ -219,7 +208,6 @@ public final class ActsTest {
         images();
         told();
         troubleStays();
-        withoutPort();
         CHECK.end();
     }
 }

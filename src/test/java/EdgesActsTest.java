@@ -223,19 +223,19 @@ public final class EdgesActsTest {
         }
     }
 
-    private static void allAsByTheImage() {
+    private static DayPort imagedInTheMiddle() {
         DayPort x = told();
         x.lift(0, 1, 2);
         x.lift(0, 0, 3);
         x.dawn();
         x.open(0, true);
         x.image();
-        DayPort y = told();
-        y.lift(0, 1, 2);
-        y.lift(0, 0, 3);
-        y.dawn();
-        y.open(0, true);
-        y.image();
+        return x;
+    }
+
+    private static void allAsByTheImage() {
+        DayPort x = imagedInTheMiddle();
+        DayPort y = imagedInTheMiddle();
         y.lift(0, 2, 3);
         y.lift(0, 0, 3);
         y.dawn();

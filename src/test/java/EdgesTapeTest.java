@@ -227,15 +227,26 @@ public final class EdgesTapeTest {
             + "crate m plain on b stack 1 is 2 weighs 1;town v people 1;town a people 2;town t people 3;town k people 4;"
             + "road a t days 1;road t v days 9;road k v days 9";
         String few = "port straw 0 wage 5 gang 0 council 0;ship k day 0 chance 0 late 1 says 0;town a people 1";
-        String[] texts = {many, turned, few, turned, many, many, few, few, many, turned, turned, few, many};
+        String full = Check.fullShips(P, 2) + T;
+        String[] texts = {many, turned, few, turned, full, many, full, few, full, full, many, turned, turned, few, many};
         DayPort x = new DayPort();
         for (String text : texts) {
             CHECK.due("port of " + text, Check.tell(x, text), text.split("crate ").length - 1);
             CHECK.due("as the only text", lived(x), lived(Check.of(text)));
+            leaveTraces(x);
         }
     }
 
-    /** Lives a little, then tells all that can be seen; the state that is left is full of traces. */
+    /** Something on the quay, and on stacks of all ships, when the next text comes. */
+    private static void leaveTraces(DayPort x) {
+        for (int ship = 0; ship < 3; ship++) {
+            x.lift(ship, 1, 3);
+            x.lift(ship, 2, 3);
+            x.lift(ship, 2, 0);
+        }
+    }
+
+    /** Lives a little, then tells all that can be seen. */
     private static String lived(DayPort x) {
         StringBuilder seen = new StringBuilder();
         for (int i = 0; i < 4; i++) {

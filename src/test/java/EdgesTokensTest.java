@@ -133,12 +133,19 @@ public final class EdgesTokensTest {
                 formAt(i, "x");
                 formAt(i, token + "x");
                 formAt(i, token.substring(1));
+                everyLetter(i, token);
             }
             if (i > 0 && !tokens.get(i - 1).equals(";")) {
                 for (String reserved : RESERVED) {
                     formAt(i, reserved);
                 }
             }
+        }
+    }
+
+    private static void everyLetter(int i, String word) {
+        for (int k = 0; k < word.length(); k++) {
+            formAt(i, word.substring(0, k) + "x" + word.substring(k + 1));
         }
     }
 

@@ -87,20 +87,12 @@ public final class LiftsTest {
         CHECK.refused(x, "wrongly(-1)", x.wrongly(-1), -1, 1);
     }
 
-    private static void withoutPort() {
-        DayPort x = new DayPort();
-        CHECK.refused(x, "fewest", x.fewest(0), -1, 1);
-        CHECK.refused(x, "liftAt", x.liftAt(0, 0), -1, 1);
-        CHECK.refused(x, "wrongly", x.wrongly(0), -1, 1);
-    }
-
     public static void main(String[] args) {
         plain();
         lashed();
         frail();
         eachShipAlone();
         wrongly();
-        withoutPort();
         CHECK.end();
     }
 }

@@ -89,22 +89,12 @@ public final class NightTest {
         night(heaviest(999), 0, 0, 0, -2, -2);
     }
 
-    private static void withoutPort() {
-        DayPort x = new DayPort();
-        CHECK.refused(x, "fits", x.fits(), -1, 1);
-        CHECK.refused(x, "could", x.could(), -1, 1);
-        CHECK.refused(x, "surely", x.surely(), -1, 1);
-        CHECK.refused(x, "ask", x.ask(), -1, 1);
-        CHECK.refused(x, "askLeaves", x.askLeaves(), -1, 1);
-    }
-
     public static void main(String[] args) {
         sets();
         opened();
         crateByFewestLeft();
         countedWhereverTheyAre();
         fifteenOfTheHeaviest();
-        withoutPort();
         CHECK.end();
     }
 }

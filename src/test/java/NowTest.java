@@ -128,19 +128,6 @@ public final class NowTest {
         CHECK.due("missing", x.missing(), 20);
     }
 
-    private static void withoutPort() {
-        DayPort x = new DayPort();
-        CHECK.refused(x, "crate", x.crate(0, 0), -1, 1);
-        CHECK.refused(x, "high", x.high(0, 0), -1, 1);
-        CHECK.refused(x, "lies", x.lies(0, 0, 0), -1, 1);
-        CHECK.refused(x, "quay", x.quay(0), -1, 1);
-        CHECK.refused(x, "next", x.next(), -1, 1);
-        CHECK.refused(x, "had", x.had(0), -1, 1);
-        CHECK.refused(x, "hadOn", x.hadOn(0), -1, 1);
-        CHECK.refused(x, "missing", x.missing(), -1, 1);
-        CHECK.refused(x, "evenings", x.evenings(), -1, 1);
-    }
-
     public static void main(String[] args) {
         crates();
         stacks();
@@ -148,7 +135,6 @@ public final class NowTest {
         wetOneIsPassed();
         whatWasHad();
         brokenIsMissing();
-        withoutPort();
         CHECK.end();
     }
 }

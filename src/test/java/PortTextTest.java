@@ -141,38 +141,6 @@ public final class PortTextTest {
         CHECK.sound(P + S + ";town a people 1;town aa people 1;town z people 1;town za people 1;town az people 1", 0);
     }
 
-    private static void bound(String ahead, int low, int high, String behind) {
-        if (low > 0) {
-            CHECK.faultAtLast(ahead + " " + (low - 1), 4);
-        }
-        if (high < 999) {
-            CHECK.faultAtLast(ahead + " " + (high + 1), 4);
-        }
-        DayPort x = new DayPort();
-        for (int at : new int[] {low, high}) {
-            int crates = Check.tell(x, ahead + " " + at + behind);
-            CHECK.due(ahead + " " + at + behind, crates >= 0, true);
-        }
-    }
-
-    private static void bounds() {
-        bound("port straw", 0, 999, " wage 1 gang 0 council 0" + S + T);
-        bound("port straw 1 wage", 1, 99, " gang 0 council 0" + S + T);
-        bound("port straw 1 wage 1 gang", 0, 30, " council 0" + S + T);
-        bound("port straw 1 wage 1 gang 0 council", 0, 30, S + T);
-        bound(P + ";ship s day", 0, 60, " chance 1 late 1 says 1" + T);
-        bound(P + ";ship s day 1 chance", 0, 100, " late 1 says 1" + T);
-        bound(P + ";ship s day 1 chance 1 late", 1, 30, " says 1" + T);
-        bound(P + ";ship s day 1 chance 1 late 1 says", 0, 20, T);
-        bound(P + S + ";crate c wet on s stack", 0, 2, " is 1 weighs 1" + T);
-        bound(P + S + ";crate c wet on s stack 0 is", 1, 99, " weighs 1" + T);
-        bound(P + S + ";crate c wet on s stack 0 is 1 weighs", 1, 30, T);
-        bound(P + S + ";town t people", 1, 99, "");
-        bound(P + S + T + ";town u people 1;road t u days", 1, 9, "");
-        CHECK.faultAtLast("port straw 1 wage 000", 4);
-        CHECK.sound("port straw 001 wage 01 gang 0 council 0" + S + T, 0);
-    }
-
     private static void many() {
         String ships = P;
         for (String name : new String[] {"a", "b", "c"}) {
@@ -248,7 +216,6 @@ public final class PortTextTest {
         negativeBytes();
         form();
         names();
-        bounds();
         many();
         lacks();
         blanks();

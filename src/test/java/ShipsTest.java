@@ -110,24 +110,12 @@ public final class ShipsTest {
         CHECK.refused(x, "heaviest(-1)", x.heaviest(-1), -1, 1);
     }
 
-    private static void withoutPort() {
-        DayPort x = new DayPort();
-        CHECK.refused(x, "judge", x.judge(), -1, 1);
-        CHECK.refused(x, "come", x.come(0, 100, true), -1, 1);
-        CHECK.refused(x, "allCome", x.allCome(100, true), -1, 1);
-        CHECK.refused(x, "sure", x.sure(100), -1, 1);
-        CHECK.refused(x, "mean", x.mean(0, true), -1, 1);
-        CHECK.refused(x, "weight", x.weight(0), -1, 1);
-        CHECK.refused(x, "heaviest", x.heaviest(0), -1, 1);
-    }
-
     public static void main(String[] args) {
         likely();
         surely();
         mean();
         judge();
         weights();
-        withoutPort();
         CHECK.end();
     }
 }

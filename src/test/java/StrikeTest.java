@@ -88,21 +88,11 @@ public final class StrikeTest {
         CHECK.refused(x, "lates(0, 0, 61)", x.lates(0, 0, 61), -1, 2);
     }
 
-    private static void withoutPort() {
-        DayPort x = new DayPort();
-        CHECK.refused(x, "strike", x.strike(10, 0, true), -10000, 1);
-        CHECK.refused(x, "rests", x.rests(), -1, 1);
-        CHECK.refused(x, "rest", x.rest(0), -1, 1);
-        CHECK.refused(x, "winter", x.winter(-1), -1, 1);
-        CHECK.refused(x, "lates", x.lates(0, 0, 0), -1, 1);
-    }
-
     public static void main(String[] args) {
         pays();
         rests();
         winters();
         lates();
-        withoutPort();
         CHECK.end();
     }
 }

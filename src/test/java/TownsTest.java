@@ -105,23 +105,12 @@ public final class TownsTest {
         CHECK.due("roads", x.size(5), 0);
     }
 
-    private static void withoutPort() {
-        DayPort x = new DayPort();
-        CHECK.refused(x, "share", x.share(0, -1), -1, 1);
-        CHECK.refused(x, "late", x.late(0), -1, 1);
-        CHECK.refused(x, "farthest", x.farthest(), -1, 1);
-        CHECK.refused(x, "wayAt", x.wayAt(0, 0), -1, 1);
-        CHECK.refused(x, "inland", x.inland(0, 0), -1, 1);
-        CHECK.refused(x, "people", x.people(0, 0), -10000, 1);
-    }
-
     public static void main(String[] args) {
         shares();
         ways();
         firstOfLikeWays();
         inland();
         roadsOfThePortBefore();
-        withoutPort();
         CHECK.end();
     }
 }
